@@ -336,7 +336,7 @@ public final class WeatherDisguise {
             return BAD;
         }
         int dry = ALL_HOUSES & ~now.housesWetBy(now.laws[DAMP]);
-        int reached = 1 << from & dry;
+        int reached = (1 << from) & dry;
         for (int i = 0; i < HOUSES; i++) {
             if (isIn(reached, to)) {
                 return i;
@@ -708,7 +708,7 @@ public final class WeatherDisguise {
     private static int withNext(int houses) {
         int columnMore = (houses & ~LAST_COLUMN) << 1;
         int columnLess = (houses & ~FIRST_COLUMN) >>> 1;
-        return (houses | columnMore | columnLess | houses << SIDE | houses >>> SIDE) & ALL_HOUSES;
+        return (houses | columnMore | columnLess | (houses << SIDE) | (houses >>> SIDE)) & ALL_HOUSES;
     }
 
     /** How many ways there are to take k of n (n at most 8). */

@@ -200,6 +200,10 @@ public final class CityTest {
         CHECK.due("43: many(1)", x.many(1), 2);
         CHECK.due("43: many(2)", x.many(2), 3);
         CHECK.due("43: many(3)", x.many(3), 3);
+        x.pour(3, 1);
+        CHECK.due("43: many(3), one WET by 1", x.many(3), 3);
+        x.pour(3, 0);
+        CHECK.due("43: many(3), that one dry", x.many(3), 2);
         CHECK.due("43: many(4)", x.many(4), 0);
         CHECK.due("43: many(5)", x.many(5), 0);
         CHECK.due("43: many(6)", x.many(6), 0);

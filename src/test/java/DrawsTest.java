@@ -111,6 +111,11 @@ public final class DrawsTest {
             x.bring(1, 15);
             CHECK.due("17: blown(" + n + ") AT 15", x.blown(n), blownByHand(1000 * n, n, 3 * n, otherInCorner));
         }
+        x.mind(0, 0, 0);
+        x.mind(1, 5, 0);
+        CHECK.due("17: blown(30), the first of two goes", x.blown(30), blownByHand(30000, 30, 90, other));
+        x.mind(0, 5, 0);
+        x.mind(1, 0, 0);
         CHECK.due("17: z is as it was", x.seed(1), 30000);
         CHECK.due("17: STEP is as it was", x.state(0), 0);
         CHECK.due("17: WIND is as it was", x.state(1), 0);

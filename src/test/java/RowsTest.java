@@ -32,6 +32,8 @@ public final class RowsTest {
         CHECK.due("31: AT stays", x.of(0, 3), 0);
         CHECK.due("31: WET stays", x.state(2), 97);
         CHECK.due("31: STEP stays", x.state(0), 0);
+        CHECK.due("31: prove(0, 1)", x.prove(0, 1), 1);
+        CHECK.due("32: row(1, 0)", x.row(1, 0), -9);
         CHECK.due("31: prove(0, 2)", x.prove(0, 2), 2);
         CHECK.due("43: many(4)", x.many(4), 2);
         CHECK.due("32: row(2, 0)", x.row(2, 0), -9);

@@ -136,6 +136,7 @@ public final class SheetsTest {
         CHECK.due("35: minds(0, 0, -1, 1)", x.minds(0, 0, -1, 1), -1);
         CHECK.due("35: minds(0, 0, 0, 9)", x.minds(0, 0, 0, 9), -1);
         CHECK.due("35: minds(0, 0, 0, -1)", x.minds(0, 0, 0, -1), -1);
+        CHECK.due("35: minds(0, 3, 1, -1)", x.minds(0, 3, 1, -1), -1);
         CHECK.due("35: minds(0, 0, 0, 4)", x.minds(0, 0, 0, 4), -1);
         CHECK.due("35: minds(0, 0, 2, 2)", x.minds(0, 0, 2, 2), -1);
         CHECK.due("35: minds(1, 0, 2, 2), missing", x.minds(1, 0, 2, 2), -1);

@@ -111,6 +111,9 @@ public final class TapeTest {
             x.set(law, other[law]);
         }
         x.seed(55);
+        x.prove(0, 9);
+        x.blown(9);
+        Texts.city(x, "air at 3;turn 7;damp 8;shy 9;gust 1;wet 1 is 2;wind 2;wind 4;");
         CHECK.due("3: an empty TEXT", x.city(), 0);
         for (int what = 0; what < 6; what++) {
             CHECK.due("3: state(" + what + ") as at first", x.state(what), 0);
@@ -224,6 +227,9 @@ public final class TapeTest {
         fault("air at 5; \u00a0", 10);
         fault("air at 5; \u00e1", 10);
         fault("[", 0);
+        fault("eir at 5;", 0);
+        fault("air bt 5;", 4);
+        fault("bet 3 is 4;", 0);
         fault("@ir at 5;", 0);
     }
 
