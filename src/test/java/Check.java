@@ -25,6 +25,10 @@ final class Check {
         due(claim, does ? 1 : 0, 1);
     }
 
+    int looked() {
+        return checked;
+    }
+
     boolean isWrong() {
         return wrong > 0;
     }
