@@ -470,6 +470,11 @@ public final class EdgesOfShelvesTest {
         x.keep();
         x.mind(1, FOG, 1);
         s.due("trace(0) as of the latest act()", x.trace(0), 13);
+        x.city();
+        s.due("trace(0) behind city(), as of the latest act()", x.trace(0), 13);
+        x.again();
+        s.due("trace(0) behind again(), as of the latest act()", x.trace(0), 13);
+        x.mind(1, FOG, 1);
         x.act(0, 0, 5);
         s.due("trace(0) of a later act()", x.trace(0), 30);
         s.due("trace(1) of a later act()", x.trace(1), 10);

@@ -264,26 +264,63 @@ public final class EdgesOfTapeTest {
         }
     }
 
-    private static void byItAlone() {
+    /** Nothing is as at first, THE TAPE is empty. */
+    private static WeatherDisguise changed() {
         WeatherDisguise x = Worlds.eight();
         x.city();
-        s.due("it had FAULTS before", Texts.city(x, "turn 8;damp 3;shy 5;gust 2;wind 3;wet 4 is 5;air at 3;;"), -154);
-        x.steps(9);
-        s.due("city() of nothing", x.city(), 0);
-        for (int law = 0; law < 4; law++) {
-            s.due("lawOf(" + law + ")", x.lawOf(law), LAW_FIRST[law]);
+        for (int i = 0; i < 7; i++) {
+            x.air(i % 6, 9 - i, i, i);
         }
-        for (int what = 0; what < 6; what++) {
+        x.steps(9);
+        x.blow(3);
+        for (int law = 0; law < 4; law++) {
+            x.set(law, LAW_MOST[law]);
+        }
+        for (int house = 0; house < 16; house++) {
+            x.pour(house, 99 - house);
+        }
+        return x;
+    }
+
+    private static void asAtFirstBut(WeatherDisguise x, int law, int v) {
+        for (int i = 0; i < 4; i++) {
+            s.due("lawOf(" + i + ")", x.lawOf(i), i == law ? v : LAW_FIRST[i]);
+        }
+        for (int what = 0; what < 5; what++) {
             s.due("state(" + what + ")", x.state(what), 0);
         }
+        for (int i = 0; i < 8; i++) {
+            s.due("of(" + i + ", 0)", x.of(i, 0), -1);
+        }
         s.due("many(0)", x.many(0), 0);
-        s.due("of(0, 0)", x.of(0, 0), -1);
-        WeatherDisguise y = Worlds.eight();
-        y.city();
-        Texts.city(y, "shy 5;");
-        s.due("lawOf(2) as told", y.lawOf(2), 5);
-        s.due("lawOf(1) as at first", y.lawOf(1), 6);
-        s.due("state(0) as at first", y.state(0), 0);
+        s.due("one more", x.air(0, 0, 0, 0), 0);
+        x.steps(4);
+        s.due("WIND turns as of STEP 0", x.state(1), law == 0 && v > 3 ? 0 : 1);
+    }
+
+    private static void byItAlone() {
+        WeatherDisguise x = changed();
+        s.due("city() of nothing", x.city(), 0);
+        asAtFirstBut(x, -1, 0);
+        for (int law = 0; law < 4; law++) {
+            x = changed();
+            s.due("city() of a LAW", Texts.city(x, LAWS[law] + " 4;"), 0);
+            asAtFirstBut(x, law, 4);
+        }
+        x = changed();
+        s.due("city() of one", Texts.city(x, "fog at 9;"), 1);
+        s.due("of(0, 0)", x.of(0, 0), 2);
+        s.due("of(1, 0)", x.of(1, 0), -1);
+        s.due("state(0)", x.state(0), 0);
+        s.due("state(1)", x.state(1), 0);
+        x = changed();
+        s.due("city() of a WET HOUSE", Texts.city(x, "wet 9 is 8;"), 0);
+        s.due("state(2)", x.state(2), 8);
+        s.due("state(1)", x.state(1), 0);
+        x = changed();
+        s.due("city() of WIND", Texts.city(x, "wind 2;"), 0);
+        s.due("state(2)", x.state(2), 0);
+        s.due("state(1)", x.state(1), 2);
     }
 
     private static void zStays() {
@@ -359,6 +396,10 @@ public final class EdgesOfTapeTest {
                 Texts.city(Worlds.fresh(), before + word + name[2]) >= 0);
             fault(before + (char) (word.charAt(0) - 32) + word.substring(1) + name[2], place);
             fault(before + word.substring(0, last) + (char) (word.charAt(last) - 32) + name[2], place);
+            for (int i = 0; i <= last; i++) {
+                String other = word.charAt(i) == 'z' ? "y" : "z";
+                fault(before + word.substring(0, i) + other + word.substring(i + 1) + name[2], place);
+            }
             fault(before + word.substring(0, last) + "`" + name[2], place);
             fault(before + word.substring(0, last) + "{" + name[2], place);
             fault(before + word + "`" + name[2], place + last + 1);
@@ -439,6 +480,9 @@ public final class EdgesOfTapeTest {
                 if (!words[i].equals(";") && !words[i].equals("force") && !words[i].equals("errand")) {
                     fault(before + ";", before.length());
                 }
+                String behind = form.substring(before.length() + words[i].length());
+                fault(before + behind.trim(), before.length());
+                fault(before + words[i] + " " + words[i] + behind, before.length() + words[i].length() + 1);
             }
             fault(form + "?", form.length());
         }

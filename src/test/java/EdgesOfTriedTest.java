@@ -415,6 +415,7 @@ public final class EdgesOfTriedTest {
         x.set(0, 7);
         s.due("seen(29), one of them isn't there yet", x.seen(29), 2);
         s.due("seen(30), it is there behind 30 for the first time", x.seen(30), 1);
+        s.due("seen(29) behind seen(30)", x.seen(29), 2);
         s.within("seen(n)", Worlds::eight, 0, 30, (y, v) -> y.seen(v));
     }
 
