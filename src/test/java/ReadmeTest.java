@@ -11,8 +11,6 @@ import java.util.Set;
 import java.util.TreeSet;
 import java.util.regex.Matcher;
 import java.util.regex.Pattern;
-import javax.tools.JavaCompiler;
-import javax.tools.ToolProvider;
 
 /** README.md: its examples answer as it says there, and it names every call with its refusals, and every test. */
 public final class ReadmeTest {
@@ -76,9 +74,8 @@ public final class ReadmeTest {
         Path directory = Files.createTempDirectory("readme");
         Path file = directory.resolve("ReadmeExamples.java");
         Files.writeString(file, source);
-        JavaCompiler compiler = ToolProvider.getSystemJavaCompiler();
-        int code = compiler.run(null, null, null, "-d", directory.toString(),
-            "-cp", System.getProperty("java.class.path"), file.toString());
+        int code = new ProcessBuilder("javac", "-d", directory.toString(),
+            "-cp", System.getProperty("java.class.path"), file.toString()).inheritIO().start().waitFor();
         CHECK.due("the examples compile", code, 0);
         if (code == 0) {
             try (URLClassLoader loader = new URLClassLoader(new URL[] {directory.toUri().toURL()})) {
